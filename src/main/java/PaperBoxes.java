@@ -722,7 +722,10 @@ public final class PaperBoxes {
         }
 
         int side(int number, int column) {
-            return isNumber(number) && isWithin(column, 0, COLUMNS - 1) ? sides[number * COLUMNS + column] : 0;
+            if (number < 0 || number >= NUMBERS || column < 0 || column >= COLUMNS) {
+                return 0;
+            }
+            return sides[number * COLUMNS + column];
         }
 
         int area(int number) {

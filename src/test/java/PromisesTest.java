@@ -425,6 +425,16 @@ public final class PromisesTest {
         x.sheet(0, 12, 150);
         x.sheet(5, 150, 12);
         due("22: laps eat sheets", NONE, x.pieces(0, 0, 0));
+        x.set(0, 0);
+        x.drop(2, 1);
+        x.drop(2, 2);
+        x.drop(2, 4);
+        x.sheet(0, 150, 10);
+        x.sheet(3, 12, 12);
+        x.sheet(5, 11, 150);
+        due("22: a sheet that gives nothing", NONE, x.pieces(0, 0, 0));
+        x.sheet(0, 150, 11);
+        due("22: just enough", 33, x.pieces(0, 0, 1));
         due("22: box", UNKNOWN, x.pieces(1, 0, 2));
         due("22: axis", UNKNOWN, x.pieces(0, 3, 2));
         due("22: what", OUTSIDE, x.pieces(0, 0, 2));
