@@ -8,9 +8,11 @@ import java.util.regex.Pattern;
 /** Runs of drawn calls, each answer held against a plain model that tries out everything. */
 public final class AgainstPlainTest {
     private static final int UNKNOWN = -1, OUTSIDE = -2, STATE = -3, FULL = -4, NO = -5, NONE = -6;
-    private static final int RUNS = 400;
+    private static final int RUNS = 600;
     private static final int CALLS = 512;
+    private static final int LONGEST_LIST = 40;
     private static int wrong = 0;
+    private static int spent = 0;
 
     public static void main(String[] args) {
         int[] answeredWell = new int[40];
@@ -34,7 +36,9 @@ public final class AgainstPlainTest {
         PaperBoxes x = new PaperBoxes();
         Plain plain = new Plain();
         int kind = run % 4;
-        for (int i = 0; i < CALLS; i++) {
+        spent = 0;
+        // an object is good for so many calls, and one step may say a whole list
+        for (int i = 0; spent + LONGEST_LIST + 4 < CALLS; i++) {
             int call = i < 25 ? random.nextInt(7) : random.nextInt(40);
             int[] a = new int[6];
             for (int k = 0; k < 6; k++) {
@@ -102,6 +106,7 @@ public final class AgainstPlainTest {
 
     /** Call 5 says a whole drawn list; the others are one call each. */
     private static int ask(PaperBoxes x, int call, int[] a) {
+        spent += call == 39 ? 3 : 1;
         switch (call) {
             case 0: return x.box(a[0], a[1], a[2], a[3]);
             case 1: return x.thing(a[0], a[1], a[2], a[3]);
@@ -148,6 +153,7 @@ public final class AgainstPlainTest {
 
     /** Most sets that are drawn have some that are not there, so an even draw is cut to those that are. */
     private static int thereOf(PaperBoxes x, int what, int set) {
+        spent++;
         return set % 8 == 7 ? set : set & x.told(what);
     }
 
@@ -179,10 +185,12 @@ public final class AgainstPlainTest {
         if (sign < 33 || sign > 126) {
             return x.say(sign);
         }
+        spent++;
         if (x.told(0) > 0 && sign % 3 != 0) {
             return x.say(sign);
         }
         String list = drawnList(sign * 31 + x.told(1) + x.told(2) * 64 + x.told(3) * 4096);
+        spent += 3 + list.length();
         int answer = 0;
         for (int i = 0; i < list.length(); i++) {
             answer = x.say(list.charAt(i));
