@@ -679,6 +679,7 @@ public final class EdgesTest {
     private static void rolls() {
         rollJustSo();
         rollTheFirst();
+        rollsByEachOrderOfSides();
         cheaperAlikeOrNot();
         narrowJustSo();
     }
@@ -726,6 +727,42 @@ public final class EdgesTest {
         x.box(0, 1, 3, 3);
         settings(x, 1, 0);
         due("1 and 2 alike: the first", 1, x.roll(0, 4, 1));
+    }
+
+    /** Each width and each length, by trying out all AXES and TURNS, so that each of these is once the only one. */
+    private static void rollsByEachOrderOfSides() {
+        int[][] boxes = {{9, 7, 4}, {9, 4, 7}, {7, 9, 4}, {7, 4, 9}, {4, 9, 7}, {4, 7, 9}};
+        for (int[] box : boxes) {
+            PaperBoxes x = withBox(box[0], box[1], box[2]);
+            int[] along = new int[6];
+            int[] across = new int[6];
+            for (int way = 0; way < 6; way++) {
+                along[way] = x.need(0, way / 2, way % 2);
+                across[way] = x.need(0, way / 2, 1 - way % 2);
+            }
+            for (int width = 1; width <= 150; width++) {
+                int best = firstLeast(along, across, width);
+                due("ROLL of " + width, best < 0 ? NONE : along[best], x.roll(0, width, 0));
+                due("ROLL of " + width + ": the AXIS", best < 0 ? NONE : best / 2, x.roll(0, width, 1));
+                due("ROLL of " + width + ": the TURN", best < 0 ? NONE : best % 2, x.roll(0, width, 2));
+            }
+            PaperBoxes y = withBox(box[0], box[1], box[2]);
+            for (int length = 1; length <= 300; length++) {
+                int best = firstLeast(across, along, length);
+                due("NARROW for " + length, best < 0 ? NONE : across[best], y.narrow(0, length));
+            }
+        }
+    }
+
+    /** The first place of the least number whose bounded one is no more than the bound, or -1. */
+    private static int firstLeast(int[] numbers, int[] bounded, int bound) {
+        int best = -1;
+        for (int i = 0; i < numbers.length; i++) {
+            if (bounded[i] <= bound && (best < 0 || numbers[i] < numbers[best])) {
+                best = i;
+            }
+        }
+        return best;
     }
 
     private static void cheaperAlikeOrNot() {
