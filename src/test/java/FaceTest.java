@@ -30,6 +30,7 @@ public final class FaceTest {
 
     public static void main(String[] args) throws IOException {
         face();
+        documentFace(Files.readString(Path.of("../shared/DOC.md")));
         insideClasses();
         source(Files.readString(Path.of("src/main/java/PaperBoxes.java")));
         System.out.println(wrong == 0 ? "the face is the document's" : wrong + " faults");
@@ -63,6 +64,50 @@ public final class FaceTest {
         }
     }
 
+    /** Each line of the face in the document, with the types of all arguments and the constants' numbers. */
+    private static void documentFace(String document) {
+        Matcher block = Pattern.compile("(?s)```java\n(.*?)```").matcher(document);
+        must(block.find(), "the document has a face");
+        Set<String> wanted = new TreeSet<>();
+        Matcher line = Pattern.compile("public (int \\w+)\\((.*?)\\);").matcher(block.group(1));
+        while (line.find()) {
+            wanted.add(line.group(1) + "(" + line.group(2).replaceAll("(\\w+) \\w+", "$1") + ")");
+        }
+        Matcher constant = Pattern.compile("([A-Z]+) = (-\\d)").matcher(block.group(1));
+        while (constant.find()) {
+            wanted.add(constant.group(1) + " = " + constant.group(2));
+        }
+        must(wanted.equals(ownFace()), "the document's face is " + wanted);
+    }
+
+    private static Set<String> ownFace() {
+        Set<String> found = new TreeSet<>();
+        for (Method method : PaperBoxes.class.getDeclaredMethods()) {
+            if (Modifier.isPublic(method.getModifiers())) {
+                StringBuilder types = new StringBuilder();
+                for (Class<?> type : method.getParameterTypes()) {
+                    types.append(types.length() == 0 ? "" : ", ").append(type);
+                }
+                found.add(method.getReturnType() + " " + method.getName() + "(" + types + ")");
+                must(!Modifier.isStatic(method.getModifiers()) && method.getExceptionTypes().length == 0,
+                        method.getName() + " is of the object, and throws nothing");
+            }
+        }
+        for (Field field : PaperBoxes.class.getFields()) {
+            must(field.getType() == int.class && Modifier.isStatic(field.getModifiers()), field + " is a constant int");
+            found.add(field.getName() + " = " + numberOf(field));
+        }
+        return found;
+    }
+
+    private static String numberOf(Field field) {
+        try {
+            return String.valueOf(field.get(null));
+        } catch (IllegalAccessException e) {
+            return "not to be seen";
+        }
+    }
+
     private static void insideClasses() {
         Set<String> names = new TreeSet<>();
         for (String method : METHODS) {
@@ -70,8 +115,11 @@ public final class FaceTest {
         }
         Class<?>[] inside = PaperBoxes.class.getDeclaredClasses();
         must(inside.length < 12, "at most twelve classes");
+        fewFields(PaperBoxes.class);
         for (Class<?> type : inside) {
-            must(Modifier.isStatic(type.getModifiers()), type + " is static");
+            must(Modifier.isStatic(type.getModifiers()) && !Modifier.isPublic(type.getModifiers())
+                    && !Modifier.isProtected(type.getModifiers()), type + " is static and not to be seen");
+            fewFields(type);
             for (Method method : type.getDeclaredMethods()) {
                 must(!names.contains(method.getName()), type + " has a method of the face's name " + method.getName());
                 must(method.getParameterCount() <= 7, method + " has at most seven parameters");
@@ -84,7 +132,32 @@ public final class FaceTest {
         }
     }
 
+    private static void fewFields(Class<?> type) {
+        int fields = 0;
+        for (Field field : type.getDeclaredFields()) {
+            fields += Modifier.isStatic(field.getModifiers()) ? 0 : 1;
+        }
+        must(fields <= 20, type + " has " + fields + " fields beside its constants");
+    }
+
+    private static void methodsAreShort(String[] lines) {
+        int begin = -1;
+        String indent = "";
+        for (int i = 0; i < lines.length; i++) {
+            String line = lines[i];
+            if (begin < 0 && line.matches(" +[^=]*\\)( throws \\w+)? \\{") && !line.contains(" new ")) {
+                begin = i;
+                indent = line.substring(0, line.length() - line.stripLeading().length());
+            } else if (begin >= 0 && line.equals(indent + "}")) {
+                must(i - begin < 60, "the method of line " + (begin + 1) + " is long");
+                begin = -1;
+            }
+        }
+        must(begin < 0, "each method has an end");
+    }
+
     private static void source(String text) {
+        methodsAreShort(text.split("\n"));
         String code = text.replaceAll("(?s)/\\*.*?\\*/", "").replaceAll("//[^\n]*", "");
         Matcher banned = Pattern.compile("\\b(throw|throws|try|catch|synchronized|assert|import|package|System|"
                 + "Object|protected|native|volatile|double|float)\\b|->|::|Exact\\b|@").matcher(code);
